@@ -350,7 +350,15 @@ public final class DonkeyExecutor {
         if (!isHeir(heir)) {
             return BAD;
         }
-        tallyDeeds(heir);
+        Arrays.fill(tally, 0);
+        trial.prepare(given);
+        for (int lure = 0; lure < FIGURES; lure++) {
+            trial.given.lure[heir] = lure;
+            trial.run();
+            if (witness.agrees(trial)) {
+                tallyTrial();
+            }
+        }
         int best = NONE;
         int least = FIGURES + 1;
         for (int stop = 0; stop < given.stops; stop++) {
@@ -631,21 +639,13 @@ public final class DonkeyExecutor {
         return weight;
     }
 
-    /** Tells for each stop by how many lures of those that fit what was seen it does each thing there. */
-    private void tallyDeeds(int heir) {
-        Arrays.fill(tally, 0);
-        trial.prepare(given);
-        for (int lure = 0; lure < FIGURES; lure++) {
-            trial.given.lure[heir] = lure;
-            trial.run();
-            if (witness.agrees(trial)) {
-                for (int stop = 0; stop < given.stops; stop++) {
-                    tally[stop * DEEDS + trial.did[stop]]++;
-                }
-            }
+    private void tallyTrial() {
+        for (int stop = 0; stop < given.stops; stop++) {
+            tally[stop * DEEDS + trial.did[stop]]++;
         }
     }
 
+    /** By how many of the tallied trials it does the same at that stop, at most. */
     private int mostAlike(int stop) {
         int most = 0;
         for (int did = 0; did < DEEDS; did++) {
@@ -737,7 +737,11 @@ public final class DonkeyExecutor {
         }
 
         void drawRound(int seed, int n) {
-            stops = heirs > 0 ? Math.min(n, STOP_LIMIT) : 0;
+            stops = 0;
+            if (heirs <= 0 || n > STOP_LIMIT) {
+                return;
+            }
+            stops = n;
             int lot = seed;
             for (int stop = 0; stop < stops; stop++) {
                 lot = 1103515245 * lot + 12345;
@@ -768,7 +772,7 @@ public final class DonkeyExecutor {
             if (sort[heir] == MAID) {
                 dread -= 1;
             }
-            return Math.max(dread, 0);
+            return dread < 0 ? 0 : dread;
         }
 
         /** No single visit can bring an heir more than this. */
@@ -871,7 +875,7 @@ public final class DonkeyExecutor {
 
         private void bestow(int heir) {
             did = STAYS;
-            gain = Math.min(pull, MOST_GAIN);
+            gain = pull < MOST_GAIN ? pull : MOST_GAIN;
             if (ate > 0) {
                 gain *= 2;
             }
@@ -1075,7 +1079,7 @@ public final class DonkeyExecutor {
             }
         }
 
-        /** The least share can't become more than this: a visited heir is not visited again, so its share won't grow. */
+        /** The least share can't become more than this: who was visited is not visited again, and gains no more. */
         private static int hope(Given given, Walk walk, int visited) {
             int least = Integer.MAX_VALUE;
             for (int heir = 0; heir < given.heirs; heir++) {
