@@ -166,12 +166,12 @@ public final class DonkeyExecutor {
         if (sheet.lost) {
             return found(NULL);
         }
-        flies.size = 0;
-        for (int i = 0; i < sheet.size && i < FLY_LIMIT && within(sheet.items[i], STOP_LIMIT - 1); i++) {
+        int before = flies.size;
+        for (int i = 0; i < sheet.size && mayFly(sheet.items[i]); i++) {
             flies.append(sheet.items[i]);
         }
         takeFlies();
-        return flies.size;
+        return flies.size - before;
     }
 
     // ---- stops
@@ -586,6 +586,11 @@ public final class DonkeyExecutor {
 
     private boolean isHeir(int heir) {
         return heir >= 0 && heir < given.heirs;
+    }
+
+    /** Whether there may be one of FLIES more, at that stop. */
+    private boolean mayFly(int stop) {
+        return within(stop, STOP_LIMIT - 1) && flies.size < FLY_LIMIT;
     }
 
     private Script scriptOf(int text) {

@@ -208,13 +208,12 @@ final class PlainModel {
     int read(int s) {
         if (s < 0 || s > 3) return BAD;
         if (sheets[s] == null) return found(1);
-        flies.clear();
+        int came = 0;
         for (int i = 0; i < length(sheets[s]); i++) {
-            int v = item(sheets[s], i);
-            if (v < 0 || v > 19 || flies.size() == 6) break;
-            flies.add(v);
+            if (fly(item(sheets[s], i)) < 0) break;
+            came++;
         }
-        return flies.size();
+        return came;
     }
 
     int does(int stop, int what) {

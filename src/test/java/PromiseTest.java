@@ -227,22 +227,65 @@ public final class PromiseTest {
         due("read(1) of a LOST one", x.read(1), NULL);
         due("count(4) behind NULL", x.count(4), 1);
         due("count(8)", x.count(8), 1);
-        sheet(x, 1, 2, 0, 19, 1, 20, 2);
-        due("read(1) up to a 20", x.read(1), 3);
-        due("does(0, 0)", x.does(0, 0), 1);
+        sheet(x, 1, 2, 0, 19, 20, 1);
+        due("read(1) up to a 20", x.read(1), 2);
+        due("count(4) with the one that was", x.count(4), 3);
+        due("does(0, 0) with FLIES read", x.does(0, 0), 1);
+        x = fliedAt(2);
+        sheet(x, 1, 2, 0, 19, 20, 1);
+        due("never() ahead of it", x.never(), 0b1);
+        x.read(1);
+        due("never() behind it", x.never(), 0b111);
+        x.seen(0, 1);
+        x.back();
+        due("does(2, 0) with FLIES that were", x.does(2, 0), 0);
+        due("never() with FLIES read behind those that were", x.never(), 0b01);
+        x.back();
+        due("does(0, 0) with FLIES read undone", x.does(0, 0), 3);
+        due("does(2, 0) with FLIES that were alone", x.does(2, 0), 1);
+        due("back() to the one that was", x.back(), 0);
+
+        x = fliedAt(2);
         sheet(x, 1, 0, 1, -1, 0);
         due("read(1) up to a -1", x.read(1), 1);
-        due("does(0, 0)", x.does(0, 0), 3);
-        due("does(1, 0)", x.does(1, 0), 1);
-        sheet(x, 2, 1, 0, 1, 2, 3, 4, 5, 6);
-        due("read(2) of seven shorts", x.read(2), 6);
-        sheet(x, 2, 1, 20);
+        due("count(4) behind a -1", x.count(4), 2);
+        due("does(0, 0) behind a -1", x.does(0, 0), 3);
+        due("does(1, 0) behind a -1", x.does(1, 0), 1);
+        sheet(x, 2, 1, 20, 0);
         due("read(2) of none that may be", x.read(2), 0);
-        due("does(1, 0) without FLIES", x.does(1, 0), 3);
-        x.fly(1);
+        due("count(4) behind none that may be", x.count(4), 2);
         x.sheet(3, 0, 0);
         due("read(3) of an empty one", x.read(3), 0);
-        due("count(4)", x.count(4), 0);
+        due("count(4) behind an empty one", x.count(4), 2);
+        due("does(1, 0) behind an empty one", x.does(1, 0), 1);
+        due("count(8) of nothing found", x.count(8), 0);
+        readToTheLimit();
+    }
+
+    private static DonkeyExecutor fliedAt(int stop) {
+        DonkeyExecutor x = will("k40", "aaa");
+        x.set(2, 19);
+        x.fly(stop);
+        return x;
+    }
+
+    private static void readToTheLimit() {
+        DonkeyExecutor x = new DonkeyExecutor();
+        sheet(x, 2, 1, 0, 1, 2, 3, 4, 5, 6);
+        due("read(2) of seven shorts", x.read(2), 6);
+        due("read(2) with six there", x.read(2), 0);
+        due("count(4) with six there", x.count(4), 6);
+        due("count(8) with six there", x.count(8), 0);
+        x.back();
+        due("read(2) with five there", x.read(2), 1);
+        x = fliedAt(1);
+        sheet(x, 0, 2, 19, 19, 19, 19);
+        due("read(0) once", x.read(0), 4);
+        sheet(x, 0, 2, 19, 0);
+        due("read(0) with room for one", x.read(0), 1);
+        due("does(0, 0) at an item beyond the limit", x.does(0, 0), 3);
+        due("does(1, 0) at FLIES that were", x.does(1, 0), 1);
+        due("get(0, 2, 1) of a SHEET that was read", x.get(0, 2, 1), 0);
     }
 
     private static void sheet(DonkeyExecutor x, int s, int form, int... items) {
