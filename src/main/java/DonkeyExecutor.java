@@ -31,10 +31,14 @@ public final class DonkeyExecutor {
     private static final int[] TEMPER_MOST = {9, 9, 19, 9};
     private static final int MOST_HUNGER = 9;
     private static final int MOST_GAIN = 9;
+    /** Twice the most that is gained without eating. */
+    private static final int MOST_OF_A_VISIT = 2 * MOST_GAIN;
     private static final int BRAY_PULL = 9;
 
     private static final int SIXTEENTHS = 16;
     private static final int NULL = 1, INDEX = 2, CAST = 3, STORE = 4, SIZE = 5;
+    private static final int LEAST_INT = 1 << 31;
+    private static final long LEAST_LONG = 1L << 63;
 
     private final Script heirText = new Script(HEIR_BYTES);
     private final Script roundText = new Script(STOP_LIMIT);
@@ -373,7 +377,7 @@ public final class DonkeyExecutor {
 
     public long swarm(int c, int heir, int what) {
         if (!within(c, SIXTEENTHS) || !isHeir(heir) || !within(what, 1)) {
-            return Long.MIN_VALUE - BAD;
+            return LEAST_LONG - BAD;
         }
         tellRichestBySet();
         long above = 0;
@@ -439,12 +443,12 @@ public final class DonkeyExecutor {
 
     public int get(int s, int form, int i) {
         if (!isSheet(s) || !isForm(form)) {
-            return Integer.MIN_VALUE;
+            return LEAST_INT;
         }
         int fault = sheets[s].faultOf(form, i);
         if (fault != 0) {
             finding = fault;
-            return Integer.MIN_VALUE;
+            return LEAST_INT;
         }
         return sheets[s].items[i];
     }
@@ -1086,7 +1090,7 @@ public final class DonkeyExecutor {
 
         /** The least share can't become more than this: who was visited is not visited again, and gains no more. */
         private static int hope(Given given, Walk walk, int visited) {
-            int least = Integer.MAX_VALUE;
+            int least = MOST_OF_A_VISIT;
             for (int heir = 0; heir < given.heirs; heir++) {
                 boolean wasVisited = ((visited >> heir) & 1) != 0;
                 least = Math.min(least, wasVisited ? walk.share[heir] : given.mostGain(heir));

@@ -1,3 +1,5 @@
+import java.io.PrintWriter;
+import java.io.StringWriter;
 import java.lang.reflect.Constructor;
 import java.lang.reflect.Field;
 import java.lang.reflect.Method;
@@ -7,10 +9,13 @@ import java.nio.file.Path;
 import java.util.ArrayList;
 import java.util.Arrays;
 import java.util.List;
+import java.util.Map;
 import java.util.Set;
+import java.util.TreeMap;
 import java.util.TreeSet;
 import java.util.regex.Matcher;
 import java.util.regex.Pattern;
+import java.util.spi.ToolProvider;
 
 /** Looks whether the class has the document's face and keeps to those rules of LANGUAGE.md that a program can read. */
 public final class LanguageTest {
@@ -27,6 +32,16 @@ public final class LanguageTest {
         "\\b(throw|throws|try|catch|synchronized|assert|yield|native|volatile|transient|protected)\\b", "->", "::",
         "\\bcase [^:]*->", "@", "Exact\\b", "\\bvar\\b", "\\b(hashCode|toString|getClass|Object|Thread|Random)\\b",
         "\\bnew [A-Za-z]+\\([^)]*\\) *\\{", "\"[^\"]*\" *\\+|\\+ *\"", "\\bwhile *\\( *true *\\)", "for *\\( *;"};
+    /**
+     * Rule 4, as far as the class has a use for it. Integer.MIN_VALUE and its like do not stand there, so the least
+     * int (promise 33) and the least long (promise 28) are constants of the class's own.
+     */
+    private static final Set<String> LIBRARY =
+        Set.of("java.util", "util.Arrays", "Arrays.fill", "Arrays.copyOf", "Arrays.copyOfRange", "System.arraycopy",
+            "Math.min", "Math.max", "Math.abs", "Math.floorDiv", "Math.floorMod", "Integer.bitCount");
+    private static final Pattern OF_LIBRARY = Pattern.compile(
+        "\\b(Boolean|Byte|Character|Short|Integer|Long|Float|Double|Math|String|System|Arrays|List|java|util)\\.(\\w+)");
+    private static final int MOST_DEEP = 8;
 
     private static int wrong = 0;
 
@@ -35,7 +50,9 @@ public final class LanguageTest {
         theNestedClasses();
         String code = withoutComments(Files.readString(SOURCE));
         theWords(code);
+        theLibrary(code);
         theMethods(code);
+        theDepth();
         theRoom();
         System.out.println(wrong == 0 ? "the rules are kept" : wrong + " rules are broken");
         if (wrong != 0) System.exit(1);
@@ -114,6 +131,11 @@ public final class LanguageTest {
         rule(code.chars().allMatch(c -> c > 0 && c < 128), "the source has signs above 127");
     }
 
+    private static void theLibrary(String code) {
+        Matcher m = OF_LIBRARY.matcher(code);
+        while (m.find()) rule(LIBRARY.contains(m.group(1) + "." + m.group(2)), "rule 4: not in the library: " + m.group());
+    }
+
     private static void theMethods(String code) {
         String[] lines = code.split("\n");
         int begun = -1;
@@ -124,6 +146,61 @@ public final class LanguageTest {
                 begun = -1;
             }
         }
+    }
+
+    /** Rule 11: calls that are no recursion go at most eight deep; a call of the library is a level too. */
+    private static void theDepth() throws Exception {
+        Map<String, Set<String>> graph = callGraph();
+        rule(graph.getOrDefault("DonkeyExecutor.digest", Set.of()).size() > 10, "the calls can't be read");
+        for (String method : graph.keySet()) {
+            List<String> way = deepest(method, graph, new ArrayList<>());
+            rule(way.size() <= MOST_DEEP, "rule 11: calls go " + way.size() + " deep: " + way);
+        }
+    }
+
+    private static List<String> deepest(String method, Map<String, Set<String>> graph, List<String> open) {
+        List<String> best = List.of();
+        open.add(method);
+        for (String next : graph.getOrDefault(method, Set.of())) {
+            if (open.contains(next)) {
+                rule(next.equals(method), "a recursion through several methods: " + open + " " + next);
+                continue;
+            }
+            List<String> way = deepest(next, graph, open);
+            if (way.size() > best.size()) best = way;
+        }
+        open.remove(open.size() - 1);
+        List<String> whole = new ArrayList<>(List.of(method));
+        whole.addAll(best);
+        return whole;
+    }
+
+    /** Which methods each method calls, as its bytecode tells. No two methods of a class have one name. */
+    private static Map<String, Set<String>> callGraph() throws Exception {
+        Path built = Path.of(DonkeyExecutor.class.getProtectionDomain().getCodeSource().getLocation().toURI());
+        List<String> args = new ArrayList<>(List.of("-c", "-p", "-cp", built.toString(), "DonkeyExecutor"));
+        for (Class<?> c : DonkeyExecutor.class.getDeclaredClasses()) args.add(c.getName());
+        StringWriter told = new StringWriter();
+        PrintWriter out = new PrintWriter(told);
+        ToolProvider.findFirst("javap").orElseThrow().run(out, out, args.toArray(new String[0]));
+        Pattern classHead = Pattern.compile("\\bclass (\\S+) \\{");
+        Pattern methodHead = Pattern.compile("^  (?=\\S)(?:.* )?([\\w$]+)\\(.*\\);");
+        Pattern call = Pattern.compile("// (?:Interface)?Method ([^:]+):");
+        Map<String, Set<String>> graph = new TreeMap<>();
+        String in = "", method = "";
+        for (String line : told.toString().split("\n")) {
+            Matcher c = classHead.matcher(line), m = methodHead.matcher(line), k = call.matcher(line);
+            if (c.find()) {
+                in = c.group(1);
+            } else if (m.find()) {
+                method = in + "." + (m.group(1).equals(in) ? "<init>" : m.group(1));
+                graph.put(method, new TreeSet<>());
+            } else if (k.find()) {
+                String called = k.group(1).replace("\"", "");
+                graph.get(method).add(called.contains(".") ? called : in + "." + called);
+            }
+        }
+        return graph;
     }
 
     /** One object may be asked 512 times in a room that is never swept, so calls make nothing. */
